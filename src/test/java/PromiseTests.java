@@ -375,6 +375,9 @@ public final class PromiseTests {
         CaveParty ring = party(3, 0, 1, 1, 2, 2, 0);
         due("ring", ring.fewest(0), 2);
         planIs(ring, "ring", 0, 0, NONE, 0, 1, NONE, 2, 0, 2);
+        CaveParty star = party(4, 0, 1, 0, 2, 0, 3);
+        due("star", star.fewest(0), 2);
+        planIs(star, "puts come ahead of slides", 0, 1, NONE, 0, 2, NONE, 2, 1, 0, 2, 0, 2);
     }
 
     private static void promise13() {
@@ -422,6 +425,11 @@ public final class PromiseTests {
         x.order(2, 0, 0);
         x.order(0, 2, 0);
         judged(x, "a put behind a slide", 1, 0, 0);
+        x.anew();
+        x.order(0, 0, 0);
+        x.order(3, 0, 0);
+        x.order(0, 2, 0);
+        judged(x, "a put behind a guard", 1, 0, 0);
         x.anew();
         x.order(0, 0, 0);
         x.order(1, 0, 0);
