@@ -565,8 +565,9 @@ public final class CaveParty {
             return ground.cutBetween(first);
         }
 
+        /** Without caves there is no cut, and so no greatest one. */
         int greatestCut() {
-            int greatest = 0;
+            int greatest = NONE;
             for (int i = 1; i <= ground.caves; i++) {
                 greatest = Math.max(greatest, cutBehind(i));
             }

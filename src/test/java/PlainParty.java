@@ -521,7 +521,7 @@ final class PlainParty {
     }
 
     int cut(int i) {
-        if (i < 0 || i > n) {
+        if (i < 0 || i > n || n == 0) {
             return NONE;
         }
         return i == 0 ? greatest(layout) : cutOf(layout, i);

@@ -69,7 +69,7 @@ public final class PromiseTests {
         due("new: witness", x.witness(0, 1), NONE);
         due("new: judge", x.judge(0), NONE);
         due("new: place", x.place(0, 0), false);
-        due("new: cut(0)", x.cut(0), 0);
+        due("new: cut(0)", x.cut(0), NONE);
         due("new: cut(1)", x.cut(1), NONE);
         due("new: width", x.width(), NONE);
         noPlan(x, "new");
@@ -519,8 +519,14 @@ public final class PromiseTests {
         for (int i : new int[] {-1, 5, 12, FAR, DEEP}) {
             due("cut(" + i + ")", x.cut(i), NONE);
         }
-        due("one cave", party(1).cut(0), 0);
-        due("one cave", party(1).cut(1), 0);
+        due("one cave: cut(0)", party(1).cut(0), 0);
+        due("one cave: cut(1)", party(1).cut(1), 0);
+        due("caves without passages: cut(0)", party(12).cut(0), 0);
+        x.caves(0);
+        due("no caves any more: cut(0)", x.cut(0), NONE);
+        due("no caves any more: cut(1)", x.cut(1), NONE);
+        x.caves(2);
+        due("caves again: cut(0)", x.cut(0), 0);
     }
 
     private static void promise17() {
