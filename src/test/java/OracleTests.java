@@ -36,13 +36,17 @@ public final class OracleTests {
         }
 
         void map(Random r, int n, int m, boolean gaps) {
-            same(name, "caves(" + n + ")", bit(x.caves(n)), bit(y.caves(n)));
+            caves(n);
             for (int i = 0; i < (gaps ? 18 : m); i++) {
                 dig(r.nextInt(n), r.nextInt(n));
             }
             for (int i = 0; i < 200 && x.count(7) > m; i++) {
                 fillUp(r.nextInt(18));
             }
+        }
+
+        void caves(int n) {
+            same(name, "caves(" + n + ")", bit(x.caves(n)), bit(y.caves(n)));
         }
 
         void dig(int a, int b) {
@@ -205,8 +209,37 @@ public final class OracleTests {
         }
     }
 
+    /** Any call behind any other, new maps too, up to the 512th call of a party. */
+    private static void wholeRuns(int seeds) {
+        for (int seed = 0; seed < seeds; seed++) {
+            Random r = new Random(9000 + seed);
+            Pair pair = new Pair("whole run " + seed);
+            int n = 0;
+            for (int i = 0; i < 500; i++) {
+                int chance = r.nextInt(60);
+                if (chance == 0 || i == 3) {
+                    pair.caves(near(r, 0, r.nextInt(4) == 0 ? 9 : 6));
+                    n = pair.y.count(6);
+                } else if (chance < 8) {
+                    pair.dig(near(r, 0, n - 1), near(r, 0, n - 1));
+                } else if (chance < 10) {
+                    pair.fewest(near(r, 0, 2));
+                } else if (chance < 12) {
+                    pair.witness(near(r, 0, 2), near(r, 1, 3));
+                } else {
+                    pair.anyCall(r, Math.max(1, n));
+                }
+                if (i % 25 == 0) {
+                    pair.lookAll();
+                    pair.plan();
+                }
+            }
+        }
+    }
+
     public static void main(String[] args) {
         searches(120);
+        wholeRuns(40);
         plans(250);
         widths(200);
         System.out.println(wrong == 0 ? "all answers are as due" : wrong + " answers are not as due");

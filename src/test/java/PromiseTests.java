@@ -1,59 +1,5 @@
 /** Each promise of the document by hand: ordinary calls, the edges that it names, wrong arguments. */
-public final class PromiseTests {
-    private static final int NONE = CaveParty.NONE;
-    private static final int FAR = Integer.MAX_VALUE;
-    private static final int DEEP = Integer.MIN_VALUE;
-    private static int wrong = 0;
-
-    private static void due(String call, long got, long want) {
-        if (got != want) {
-            wrong++;
-            System.out.println(call + " answered " + got + ", due is " + want);
-        }
-    }
-
-    private static void due(String call, boolean got, boolean want) {
-        due(call, got ? 1L : 0L, want ? 1L : 0L);
-    }
-
-    /** A party with n caves and passages between the given ends, two and two. */
-    private static CaveParty party(int n, int... ends) {
-        CaveParty x = new CaveParty();
-        due("caves(" + n + ")", x.caves(n), true);
-        for (int i = 0; i + 1 < ends.length; i += 2) {
-            due("passage(" + ends[i] + ", " + ends[i + 1] + ")", x.passage(ends[i], ends[i + 1]), i / 2);
-        }
-        return x;
-    }
-
-    private static void counts(CaveParty x, String why, int... want) {
-        for (int what = 0; what < want.length; what++) {
-            due(why + ": count(" + what + ")", x.count(what), want[what]);
-        }
-    }
-
-    private static void planIs(CaveParty x, String why, int... want) {
-        due(why + ": plan(NONE, 0)", x.plan(NONE, 0), want.length / 3);
-        for (int i = 0; i < want.length; i++) {
-            due(why + ": plan(" + i / 3 + ", " + i % 3 + ")", x.plan(i / 3, i % 3), want[i]);
-        }
-        due(why + ": no order behind the last", x.plan(want.length / 3, 0), NONE);
-    }
-
-    private static void noPlan(CaveParty x, String why) {
-        for (int i = -1; i < 3; i++) {
-            for (int what = -1; what < 4; what++) {
-                due(why + ": plan(" + i + ", " + what + ")", x.plan(i, what), NONE);
-            }
-        }
-    }
-
-    private static void rowIs(CaveParty x, String why, int... row) {
-        for (int i = 0; i < row.length; i++) {
-            due(why + ": look(" + row[i] + ", 3)", x.look(row[i], 3), i);
-        }
-    }
-
+public final class PromiseTests extends Checks {
     private static void promise1() {
         CaveParty x = new CaveParty();
         due("NONE", NONE, -1);
@@ -441,12 +387,6 @@ public final class PromiseTests {
         apartFromTheMouth();
     }
 
-    private static void judged(CaveParty x, String why, int any, int putsAhead, int fromTheMouth) {
-        due(why + ": judge(0)", x.judge(0), any);
-        due(why + ": judge(1)", x.judge(1), putsAhead);
-        due(why + ": judge(2)", x.judge(2), fromTheMouth);
-    }
-
     private static void largeMap() {
         CaveParty x = new CaveParty();
         x.caves(12);
@@ -569,9 +509,6 @@ public final class PromiseTests {
         promise15();
         promise16();
         promise17();
-        System.out.println(wrong == 0 ? "all answers are as due" : wrong + " answers are not as due");
-        if (wrong != 0) {
-            System.exit(1);
-        }
+        tellAndEnd();
     }
 }
