@@ -25,6 +25,7 @@ public final class FaceTests {
     private static final String FORBIDDEN = "\\b(throw|throws|try|catch|synchronized|assert|package|Object|equals"
         + "|hashCode|toString|System\\.(?!arraycopy)\\w+|Thread|Random|Runtime|\\w+Exact|protected)\\b|->|::";
     private static final int MOST_ELEMENTS = 14000;
+    private static final int MOST_LINES = 60;
     private static int wrong = 0;
 
     private static void due(String what, Object got, Object want) {
@@ -64,7 +65,19 @@ public final class FaceTests {
         due("constructors", made.length, 1);
         due("without arguments and public", made[0].getParameterCount() == 0
             && Modifier.isPublic(made[0].getModifiers()), true);
+        for (Method m : CaveParty.class.getDeclaredMethods()) {
+            due(m + " bears a name of the face", Modifier.isPrivate(m.getModifiers())
+                && names.contains(m.getName()), false);
+        }
+        noStaticState(CaveParty.class);
         insideClasses(names);
+    }
+
+    private static void noStaticState(Class<?> c) {
+        for (Field f : c.getDeclaredFields()) {
+            boolean kept = Modifier.isStatic(f.getModifiers());
+            due(f + " is static and not final", kept && !Modifier.isFinal(f.getModifiers()), false);
+        }
     }
 
     private static void insideClasses(Set<String> names) {
@@ -72,6 +85,7 @@ public final class FaceTests {
         due("at most twelve classes", inside.length < 12, true);
         for (Class<?> c : inside) {
             due(c + " is static", Modifier.isStatic(c.getModifiers()), true);
+            noStaticState(c);
             due(c + " has at most twenty fields", c.getDeclaredFields().length <= 20 + constants(c), true);
             for (Method m : c.getDeclaredMethods()) {
                 due(m + " bears a name of the face", names.contains(m.getName()), false);
@@ -105,6 +119,26 @@ public final class FaceTests {
                 due("a sign", (int) c, "at most 126");
             }
         }
+    }
+
+    /** From a line that opens a method to the brace that closes it at the same depth. */
+    private static void shortMethods() throws Exception {
+        List<String> lines = Files.readAllLines(Path.of("src/main/java/CaveParty.java"));
+        int methods = 0;
+        for (int i = 0; i < lines.size(); i++) {
+            String line = lines.get(i);
+            if (!line.matches(" +[^ */].*\\w\\(.*\\) \\{") || line.matches(" +(\\} else )?(if|for|while|switch) .*")) {
+                continue;
+            }
+            methods++;
+            String end = line.substring(0, line.length() - line.stripLeading().length()) + "}";
+            int last = i;
+            while (last < lines.size() && !lines.get(last).equals(end)) {
+                last++;
+            }
+            due(line.strip() + " is longer than sixty lines", last - i > MOST_LINES, false);
+        }
+        due("methods were found", methods >= FACE.length, true);
     }
 
     /** All objects that can be come to from x, with their fields and elements. */
@@ -149,6 +183,7 @@ public final class FaceTests {
     public static void main(String[] args) throws Exception {
         face();
         source();
+        shortMethods();
         rooms();
         System.out.println(wrong == 0 ? "all is as due" : wrong + " things are not as due");
         if (wrong != 0) {
