@@ -717,6 +717,7 @@ public final class BoundaryTests extends Checks {
         counts(party(2, 0, 1, 0, 1), "one passage too many", 0, 0, 0, 2, 2, 0, 2, 2, 0, 1, 0);
         counts(party(4, RING_OF_3), "as many as a tree, but apart", 0, 0, 0, 4, 3, 0, 4, 3, 0, 2, 0);
         counts(party(4, 0, 1, 2, 3), "one too few", 0, 0, 0, 4, 2, 0, 4, 2, 0, 2, 0);
+        counts(party(4, 0, 2, 1, 3), "one between another's caves", 0, 0, 0, 4, 2, 0, 4, 2, 0, 2, 0);
     }
 
     private static void thePartySoFar() {
@@ -848,6 +849,37 @@ public final class BoundaryTests extends Checks {
         x.drop(9);
         due("eight are left", x.fewest(2), 2);
         planIs(x, "the lowest of them", 0, 0, NONE, 0, 0, NONE, 2, 0, 10);
+    }
+
+    /** A plan goes along a passage of any number, also where it is the only one. */
+    private static void plansAlongEachPassage() {
+        for (int p = 0; p <= 17; p++) {
+            CaveParty x = bundle(18);
+            for (int q = 0; q <= 17; q++) {
+                due("drop(" + q + ")", q != p && x.drop(q), q != p);
+            }
+            for (int law = 0; law <= 2; law++) {
+                due("only " + p + " is left: fewest(" + law + ")", x.fewest(law), 1);
+                planIs(x, "only " + p + " is left", 0, 0, NONE, 2, 0, p);
+                due("only " + p + " is left: witness(" + law + ", 1)", x.witness(law, 1), -2);
+            }
+        }
+    }
+
+    private static void aRingOfTheLastPassages() {
+        CaveParty x = party(3);
+        for (int p = 0; p < 15; p++) {
+            x.passage(0, 1);
+        }
+        for (int i = 0; i < RING_OF_3.length; i += 2) {
+            due("passage", x.passage(RING_OF_3[i], RING_OF_3[i + 1]), 15 + i / 2);
+        }
+        for (int p = 0; p < 15; p++) {
+            x.drop(p);
+        }
+        due("by one", x.witness(0, 1), 4);
+        due("fewest(1)", x.fewest(1), 2);
+        planIs(x, "two, and one of them along the last", 0, 0, NONE, 0, 1, NONE, 2, 0, 17);
     }
 
     private static void theFullestMap() {
@@ -1353,6 +1385,8 @@ public final class BoundaryTests extends Checks {
         sentence("11: NONE: more than 6 CAVES", BoundaryTests::sixCavesAndNoMore);
         sentence("11: NONE: more than 8 PASSAGES", BoundaryTests::eightPassagesAndNoMore);
         sentence("11: 8 PASSAGES with high numbers", BoundaryTests::passagesAreCountedNotNumbered);
+        sentence("11: PASSAGES 0 to 17, one of them", BoundaryTests::plansAlongEachPassage);
+        sentence("11: PASSAGES 0 to 17, the last of them", BoundaryTests::aRingOfTheLastPassages);
         sentence("11: of at most 6 CAVES and 8 PASSAGES", BoundaryTests::theFullestMap);
         sentence("11: 4: none of 1 to 3", BoundaryTests::noneOfOneToThree);
         sentence("11: none is ahead of any", BoundaryTests::noneAheadOfAny);
